@@ -578,20 +578,16 @@ public final class PaperedOver {
                 sort = NAME;
                 while (end < tape.length && isLetter(tape.at(end))) end++;
             } else if (isFigure(sign)) {
-                stepOverFigures();
+                // A run that is too long may overflow the value, but then nobody asks for it.
+                value = sign - '0';
+                while (end < tape.length && isFigure(tape.at(end))) {
+                    value = value * 10 + tape.at(end) - '0';
+                    end++;
+                }
+                sort = end - begin <= MOST_FIGURES ? NUMBER : BROKEN;
             } else {
                 sort = sign == ';' ? SIGN : BROKEN;
             }
-        }
-
-        /** A longer run may overflow the value, but then nobody asks for it. */
-        void stepOverFigures() {
-            value = tape.at(begin) - '0';
-            while (end < tape.length && isFigure(tape.at(end))) {
-                value = value * 10 + tape.at(end) - '0';
-                end++;
-            }
-            sort = end - begin <= MOST_FIGURES ? NUMBER : BROKEN;
         }
 
         boolean isName(String word) {
