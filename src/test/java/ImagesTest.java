@@ -7,6 +7,7 @@ public final class ImagesTest {
         refused();
         keptAndRestored();
         notHeldInCommon();
+        wholeSpots();
         othersStay();
         Due.end();
     }
@@ -55,6 +56,7 @@ public final class ImagesTest {
         Due.is("price", x.paper(1, 2), 5);
         Due.is("repeat", x.paper(1, 3), 6);
         Due.is("kind", x.kind(1), 3);
+        Due.is("wall", x.spot(0, -1), 0);
         Due.is("layer", x.spot(0, 0), 1);
         Due.is("sure", x.papers(10), 2);
         Due.is("least", x.years(0, 0), 1831);
@@ -91,6 +93,19 @@ public final class ImagesTest {
         x.forget();
         x.restore(0);
         Due.is("again", x.spot(0, 0), 0);
+    }
+
+    private static void wholeSpots() {
+        PaperedOver x = Due.standing(Due.plain(8, 10));
+        for (int s = 0; s < 9; s++) Due.lift(x, 7 - s % 8, 2, 3, 4, 5, 6, 7, 8, 9);
+        x.image(0);
+        for (int s = 0; s < 9; s++) x.forget();
+        for (int s = 0; s < 9; s++) Due.lift(x, s % 8, 0, 1);
+        x.restore(0);
+        for (int s = 0; s < 9; s++) {
+            Due.is("wall of " + s, x.spot(s, -1), 7 - s % 8);
+            for (int k = 0; k < 8; k++) Due.is("layer " + k + " of " + s, x.spot(s, k), k + 2);
+        }
     }
 
     private static void othersStay() {

@@ -96,6 +96,14 @@ public final class ReadingTest {
         fault(x, "Wall 1800 100 200;", 0, 1);
         fault(x, "walls 1800 100 200;", 0, 1);
         fault(x, "wal 1800 100 200;", 0, 1);
+        fault(x, "ball 1800 100 200;", 0, 1);
+        fault(x, "walk 1800 100 200;", 0, 1);
+        fault(x, "wallz 1800 100 200;", 0, 1);
+        fault(x, "walla 1800 100 200;", 0, 1);
+        fault(x, "wall` 1800 100 200;", 4, 1);
+        fault(x, "wall{ 1800 100 200;", 4, 1);
+        fault(x, "wall 1800:100 200;", 9, 1);
+        fault(x, "wall 1800/100 200;", 9, 1);
         fault(x, "wall wall 100 200;", 5, 1);
         fault(x, "wall ; 100 200;", 5, 1);
         fault(x, "wall -800 100 200;", 5, 1);

@@ -29,6 +29,8 @@ public final class ScrapsTest {
         Due.is("12 apart", x.scrap(400, 388), 0b00111);
         Due.is("396 apart", x.scrap(0, 396), 0b10111);
         Due.is("400 apart", x.scrap(400, 0), 0b00101);
+        Due.is("400 apart, the other way", x.scrap(0, 400), 0b00101);
+        Due.is("not even paper 0", repeats("plain", 7, 5).scrap(0, 5), 0b10);
         Due.is("h -1", x.scrap(-1, 0), Due.BAD);
         Due.is("k -1", x.scrap(0, -1), Due.BAD);
         Due.is("h 401", x.scrap(401, 0), Due.BAD);

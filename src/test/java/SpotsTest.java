@@ -85,6 +85,7 @@ public final class SpotsTest {
         Due.is("no such spot", x.spot(1, 0), Due.BAD);
         Due.is("seen", x.papers(0), 3);
         Due.is("no longer sure", x.papers(12), 0);
+        Due.is("no longer on the wall", x.papers(30), 3);
         Due.is("none left", x.forget(), 0);
         Due.is("nothing seen", x.papers(0), 0);
         Due.is("none again", x.forget(), Due.STATE);

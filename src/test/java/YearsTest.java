@@ -121,7 +121,21 @@ public final class YearsTest {
         Due.is("a ring", x.younger(2, 0), Due.STATE);
         Due.is("BAD ahead of STATE", x.younger(2, 2), Due.BAD);
         Due.is("no house", new PaperedOver().younger(0, 1), Due.BAD);
+        anySpot();
         onlyTheLowest();
+    }
+
+    private static void anySpot() {
+        PaperedOver x = Due.standing("wall 1700 100 100;wall 1750 100 100;paper stamp 1700 1749 0 1;paper plain 1700 1999 0 1;");
+        Due.lift(x, 0, 0);
+        Due.is("the only spot", x.younger(1, 0), 1);
+        Due.lift(x, 0, 1);
+        Due.is("the first of two", x.younger(1, 0), 1);
+        x.forget();
+        x.forget();
+        Due.lift(x, 0, 1);
+        Due.lift(x, 0, 0);
+        Due.is("the last of two", x.younger(1, 0), 1);
     }
 
     private static void onlyTheLowest() {
@@ -146,11 +160,27 @@ public final class YearsTest {
         Due.lift(x, 2, 4, 9);
         Due.is("never ahead of 0 nor unseen", x.lacks(1, 0), 1 << 1 | 1 << 3);
         Due.is("more through another", x.lacks(2, 0), 1 << 2);
+        paperNought();
         Due.is("wall -1", x.lacks(-1, 0), Due.BAD);
         Due.is("wall 3", x.lacks(3, 0), Due.BAD);
         Due.is("what 2", x.lacks(0, 2), Due.BAD);
         Due.is("what -1", x.lacks(0, -1), Due.BAD);
         Due.is("no house", new PaperedOver().lacks(0, 0), Due.BAD);
+    }
+
+    private static void paperNought() {
+        PaperedOver x = Due.standing(Due.plain(3, 3));
+        Due.lift(x, 0, 1, 0, 2);
+        Due.lift(x, 1, 1, 2);
+        Due.is("0 is lacking", x.lacks(1, 0), 1);
+        x.forget();
+        x.forget();
+        Due.lift(x, 0, 2, 1, 0);
+        Due.lift(x, 2, 0);
+        Due.lift(x, 2, 2);
+        Due.is("0 is the uppermost", x.lacks(2, 0), 1 << 1);
+        Due.is("no wall has it else", x.lacks(1, 0), 0);
+        Due.is("0 behind the cupboard", x.cupboard(2, 0), 1702);
     }
 
     private static void never() {
