@@ -117,8 +117,7 @@ public final class PaperedOver {
 
     public int spot(int spot, int k) {
         if (!spots.isSpot(spot) || k < -1) return BAD;
-        if (k == -1) return spots.walls[spot];
-        return k < spots.depths[spot] ? spots.layer(spot, k) : NONE;
+        return k == -1 ? spots.wall(spot) : spots.layer(spot, k);
     }
 
     public int papers(int what) {
@@ -744,6 +743,11 @@ public final class PaperedOver {
             return number < MOST;
         }
 
+        int wall(int spot) {
+            return isSpot(spot) ? walls[spot] : NONE;
+        }
+
+        /** NONE: not so many lie there. */
         int layer(int spot, int k) {
             if (!isSpot(spot) || k < 0 || k >= depths[spot]) return NONE;
             return layers[spot * DEEPEST + k];
@@ -822,19 +826,25 @@ public final class PaperedOver {
             Arrays.fill(on, 0);
             Arrays.fill(ahead, 0);
             for (int s = 0; s < spots.number; s++) {
+                int wall = spots.wall(s);
                 int some = at(s);
                 seen |= some;
-                on[spots.walls[s]] |= some;
-                for (int k = 1; k < spots.depths[s]; k++) {
-                    ahead[spots.layer(s, k)] |= 1 << spots.layer(s, k - 1);
+                if (house.isWall(wall)) on[wall] |= some;
+                for (int k = 1; k < Spots.DEEPEST; k++) {
+                    putAhead(spots.layer(s, k - 1), spots.layer(s, k));
                 }
             }
         }
 
+        void putAhead(int below, int upon) {
+            if (house.isPaper(below) && house.isPaper(upon)) ahead[upon] |= 1 << below;
+        }
+
         int at(int spot) {
             int some = 0;
-            for (int k = 0; k < spots.depths[spot]; k++) {
-                some |= 1 << spots.layer(spot, k);
+            for (int k = 0; k < Spots.DEEPEST; k++) {
+                int paper = spots.layer(spot, k);
+                if (house.isPaper(paper)) some |= 1 << paper;
             }
             return some;
         }
@@ -897,8 +907,9 @@ public final class PaperedOver {
 
         boolean isYounger(int wall, int other) {
             for (int s = 0; s < spots.number; s++) {
-                boolean there = spots.walls[s] == other;
-                if (there && most[spots.layer(s, 0)] < house.built[wall]) return true;
+                int lowest = spots.layer(s, 0);
+                boolean there = spots.wall(s) == other && house.isPaper(lowest);
+                if (there && most[lowest] < house.built[wall]) return true;
             }
             return false;
         }
@@ -935,7 +946,8 @@ public final class PaperedOver {
         }
 
         int missingAt(int spot) {
-            return on[spots.walls[spot]] & ~at(spot);
+            int wall = spots.wall(spot);
+            return house.isWall(wall) ? on[wall] & ~at(spot) : 0;
         }
 
         int leastOf(int some) {

@@ -55,11 +55,30 @@ public final class EdgeOrdersTest {
         PaperedOver nine = with(s(1, 2, 3, 4, 5, 6, 7, 8), s(0));
         int[][] ahead = {{1, 9}, {2, 9}, {1, 3}, {4, 9}, {5, 9}, {2, 3}, {7, 9}, {8, 9}};
         for (int p = 1; p <= 8; p++) fraction(nine, 0, p, ahead[p - 1][0], ahead[p - 1][1]);
+        oddsAfterChanges();
         fraction(most(), 9, 8, 1, 1);
         fraction(most(), 8, 9, 0, 1);
         fraction(most(), 0, 7, 1, 2);
         fraction(most(), 7, 8, 2, 3);
         fraction(most(), 7, 9, 1, 3);
+    }
+
+    /** What was counted before a spot came or went is counted anew. */
+    private static void oddsAfterChanges() {
+        PaperedOver x = with(s(0), s(1), s(2));
+        fraction(x, 0, 2, 1, 2);
+        Due.lift(x, 0, 1, 0);
+        fraction(x, 0, 2, 1, 3);
+        fraction(x, 0, 1, 0, 1);
+        Due.lift(x, 0, 2, 1);
+        fraction(x, 0, 2, 0, 1);
+        fraction(x, 2, 1, 1, 1);
+        x.forget();
+        fraction(x, 0, 2, 1, 3);
+        x.forget();
+        fraction(x, 0, 1, 1, 2);
+        x.forget();
+        fraction(x, 0, 1, 1, 2);
     }
 
     private static void nextMostEvenly() {

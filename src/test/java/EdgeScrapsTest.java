@@ -347,7 +347,8 @@ public final class EdgeScrapsTest {
         PaperedOver x = Due.standing(Due.plain(8, 10));
         for (int s = 0; s < 9; s++) Due.lift(x, 7 - s % 8, 9, 8, 7, 6, 5, 4, 3, 2);
         x.image(1);
-        Due.house(x, "wall 1700 50 100;");
+        Due.house(x, Due.plain(3, 5));
+        for (int s = 0; s < 9; s++) Due.lift(x, s % 3, 0, 4);
         Edge.due(x, 1, "restore", 1);
         Edge.due(x, 8, "count", 1);
         Edge.due(x, 10, "count", 2);

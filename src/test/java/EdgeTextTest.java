@@ -158,9 +158,23 @@ public final class EdgeTextTest {
         read(WALL, 1);
         fault("wall 1800 100;", 13, 1);
         fault("wall 1800 100 200 1;", 18, 1);
-        fault("wal 1800 100 200;", 0, 1);
-        fault("walls 1800 100 200;", 0, 1);
         fault("wall 1800 100 200", 17, 1);
+        nearly("", "wall", " 1800 100 200;");
+    }
+
+    /** A word with a letter too few, one too many, or another one at each place: no such NAME is known. */
+    private static void nearly(String ahead, String word, String behind) {
+        read(ahead + word + behind, 1);
+        fault(ahead + word.substring(1) + behind, ahead.length(), 1);
+        fault(ahead + word.substring(0, word.length() - 1) + behind, ahead.length(), 1);
+        for (char letter : new char[] {'a', 'z', 's'}) {
+            fault(ahead + word + letter + behind, ahead.length(), 1);
+            fault(ahead + letter + word + behind, ahead.length(), 1);
+        }
+        for (int i = 0; i < word.length(); i++) {
+            String other = word.substring(0, i) + (char) (word.charAt(i) + 1) + word.substring(i + 1);
+            fault(ahead + other + behind, ahead.length(), 1);
+        }
     }
 
     private static void built() {
@@ -209,8 +223,7 @@ public final class EdgeTextTest {
         fault(WALL + "paper 1700 1999 99 1;", 24, 1);
         fault(WALL + "paper news 1700 1999 99;", 41, 1);
         fault(WALL + "paper news 1700 1999 99 1 1;", 44, 1);
-        fault(WALL + "pape news 1700 1999 99 1;", 18, 1);
-        fault(WALL + "papers news 1700 1999 99 1;", 18, 1);
+        nearly(WALL, "paper", " news 1700 1999 99 1;");
     }
 
     private static void sorts() {
@@ -218,12 +231,9 @@ public final class EdgeTextTest {
         String[] sorts = {"plain", "stamp", "news", "rest", "paint"};
         for (int k = 0; k < 5; k++) {
             Edge.due(read(WALL + "paper " + sorts[k] + " 1700 1700 0 1;", 1), k + 1, "kind", 0);
-            String shorter = sorts[k].substring(0, sorts[k].length() - 1);
-            String cut = sorts[k].substring(1);
-            for (String near : new String[] {shorter, cut, sorts[k] + "s", sorts[k] + "a", "paper", "dated"}) {
-                fault(WALL + "paper " + near + " 1700 1700 0 1;", 24, 1);
-            }
+            nearly(WALL + "paper ", sorts[k], " 1700 1700 0 1;");
         }
+        for (String other : new String[] {"dated", "paper", "wall"}) fault(WALL + "paper " + other + " 1700 1700 0 1;", 24, 1);
     }
 
     private static void made() {
@@ -273,8 +283,7 @@ public final class EdgeTextTest {
         read(WALL + TENANT, 1);
         fault(WALL + "tenant 1700 1999;", 34, 1);
         fault(WALL + "tenant 1700 1999 0 0;", 37, 1);
-        fault(WALL + "tenan 1700 1999 0;", 18, 1);
-        fault(WALL + "tenants 1700 1999 0;", 18, 1);
+        nearly(WALL, "tenant", " 1700 1999 0;");
     }
 
     private static void fromTo() {

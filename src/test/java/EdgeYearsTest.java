@@ -190,6 +190,33 @@ public final class EdgeYearsTest {
         Due.lift(x, 3, 9);
         Edge.due(x, 1 << 8, "lacks", 3, 0);
         Edge.due(x, 0, "lacks", 0, 0);
+        lacksByFallingNumbers();
+    }
+
+    private static void lacksByFallingNumbers() {
+        PaperedOver x = Due.standing(Due.plain(4, 10));
+        Due.lift(x, 0, 9, 8, 7, 6, 5, 4, 3, 2);
+        Due.lift(x, 0, 2, 0, 1);
+        Due.lift(x, 1, 2, 1);
+        Edge.due(x, 1, "lacks", 1, 0);
+        Due.lift(x, 2, 9);
+        Due.lift(x, 2, 0);
+        Edge.due(x, 1023 & ~(1 | 1 << 1 | 1 << 9), "lacks", 2, 0);
+        Edge.due(x, 0, "lacks", 3, 0);
+        between(0, 5, 9, 3, 4, 2);
+        between(3, 4, 2, 0, 5, 9);
+        between(1, 0, 2, 9, 8, 7);
+    }
+
+    /** Two spots of three on wall 0; of each the lower and the upper one on wall 1. */
+    private static void between(int... six) {
+        PaperedOver x = Due.standing(Due.plain(2, 10));
+        Due.lift(x, 0, six[0], six[1], six[2]);
+        Due.lift(x, 0, six[3], six[4], six[5]);
+        Due.lift(x, 1, six[0], six[2]);
+        Edge.due(x, 1 << six[1], "lacks", 1, 0);
+        Due.lift(x, 1, six[3], six[5]);
+        Edge.due(x, 1 << six[1] | 1 << six[4], "lacks", 1, 0);
     }
 
     private static void neverBelowBuilt() {
