@@ -203,6 +203,10 @@ public final class EdgeYearsTest {
         Due.lift(x, 2, 0);
         Edge.due(x, 1023 & ~(1 | 1 << 1 | 1 << 9), "lacks", 2, 0);
         Edge.due(x, 0, "lacks", 3, 0);
+        // What came behind all that is on a wall is not lacking there: 0 to 4.
+        Due.lift(x, 3, 9);
+        Due.lift(x, 3, 5);
+        Edge.due(x, 1 << 6 | 1 << 7 | 1 << 8, "lacks", 3, 0);
         between(0, 5, 9, 3, 4, 2);
         between(3, 4, 2, 0, 5, 9);
         between(1, 0, 2, 9, 8, 7);

@@ -52,7 +52,7 @@ final class Probe {
         int spots = x.count(4);
         for (int s = 0; s < spots; s++) {
             int k = -1;
-            while (ask("spot", s, k) != Due.NONE) k++;
+            while (ask("spot", s, k) != Due.NONE && k < 8) k++;
         }
     }
 
