@@ -1123,7 +1123,7 @@ public final class PaperedOver {
             return kind >= 0 && kind < bodies.length ? bodies[kind] : 0;
         }
 
-        int answer(House house, int paper, int body, int depth) {
+        private int answer(House house, int paper, int body, int depth) {
             if (depth > DEEPEST || !house.isPaper(paper)) return 0;
             begin(body);
             int on = depth + 1;

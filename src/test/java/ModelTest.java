@@ -8,6 +8,7 @@ public final class ModelTest {
     private final PaperedOver x = new PaperedOver();
     private final Model m = new Model();
     private final int run;
+    private int calls;
 
     private ModelTest(int run) {
         this.run = run;
@@ -19,8 +20,10 @@ public final class ModelTest {
         Due.end();
     }
 
+    /** Of a turn that goes beyond an object's last call, what that answers is free. */
     private void due(String call, int got, int want) {
-        Due.is("run " + run + ": " + call, got, want);
+        calls++;
+        if (calls <= CALLS) Due.is("run " + run + ": " + call, got, want);
     }
 
     private int upTo(int most) {
@@ -38,34 +41,30 @@ public final class ModelTest {
     }
 
     private void go() {
-        int calls = 0;
-        while (calls < CALLS) calls += turn();
+        while (calls < CALLS) turn();
     }
 
-    private int turn() {
+    private void turn() {
         int dice = random.nextInt(100);
-        if (dice < 1 || m.house == null && dice < 60) return tell(random.nextInt(4) == 0);
-        if (dice < 12) return rows();
-        if (dice < 24) return lift();
-        if (dice < 30) return change();
-        return ask();
+        if (dice < 1 || m.house == null && dice < 60) tell(random.nextInt(4) == 0);
+        else if (dice < 12) rows();
+        else if (dice < 24) lift();
+        else if (dice < 30) change();
+        else ask();
     }
 
-    private int tell(boolean slips) {
+    private void tell(boolean slips) {
         String text = text();
         if (slips) text = spoil(text);
-        int calls = 0;
         for (int i = 0; i < text.length(); ) {
             int n = Math.min(text.length() - i, random.nextInt(4) == 0 ? 1 + upTo(7) : 8);
             long w = random.nextLong();
             for (int k = 0; k < n; k++) w = w << 8 | text.charAt(i + k);
             due("feed " + n, x.feed(w, n), m.feed(w, n));
             i += n;
-            calls++;
         }
         due("house of '" + text + "'", x.house(), m.house());
         due("fault of '" + text + "'", x.fault(), m.fault());
-        return calls + 2;
     }
 
     private String blank() {
@@ -110,7 +109,7 @@ public final class ModelTest {
         }
     }
 
-    private int rows() {
+    private void rows() {
         int a = near(7);
         int b = near(7);
         int i = near(6);
@@ -132,18 +131,17 @@ public final class ModelTest {
             }
         }
         due("status", x.status(), m.status());
-        return 2;
     }
 
     /** Mostly papers that rise by number from the wall on, so that rings are the exception. */
-    private int lift() {
+    private void lift() {
         if (random.nextInt(5) == 0) {
             int wall = near(2);
             int row = near(7);
             int i = near(6);
             int n = random.nextBoolean() ? near(8) : 1;
             due("lift", x.lift(wall, row, i, n), m.lift(wall, row, i, n));
-            return 1;
+            return;
         }
         int papers = m.count(2);
         int wall = upTo(Math.max(0, m.count(1) - 1));
@@ -160,17 +158,15 @@ public final class ModelTest {
         if (size > 3 && random.nextBoolean()) size = 1 + upTo(2);
         due("lift " + size, x.lift(wall, row, 0, size), m.lift(wall, row, 0, size));
         due("status", x.status(), m.status());
-        return 11;
     }
 
-    private int change() {
+    private void change() {
         int k = near(1);
         switch (upTo(3)) {
             case 0: due("image", x.image(k), m.image(k)); break;
             case 1: due("restore", x.restore(k), m.restore(k)); break;
             default: due("forget", x.forget(), m.forget());
         }
-        return 1;
     }
 
     private int nearSeen() {
@@ -179,7 +175,7 @@ public final class ModelTest {
         return seen || random.nextInt(3) == 0 ? p : near(m.count(2) - 1);
     }
 
-    private int ask() {
+    private void ask() {
         int p = nearSeen();
         int q = nearSeen();
         int w = near(m.count(1) - 1);
@@ -218,6 +214,5 @@ public final class ModelTest {
         }
         due("trace", x.trace(place), m.trace(place));
         due("status", x.status(), m.status());
-        return 3;
     }
 }
